@@ -566,6 +566,7 @@ public final class DatalogMill {
         final int[] keyUnits = new int[MOST_RELATIONS];
         final int[] hangs = new int[MOST_RELATIONS];
         final int[] layers = new int[MOST_RELATIONS];
+        int topLayer;
 
         boolean has(int relation) {
             return relation >= 0 && relation < size;
@@ -1026,6 +1027,7 @@ public final class DatalogMill {
         /** Lifts relations to their layers; what is not LAYERLESS comes to rest. */
         private void layOut() {
             Arrays.fill(relations.layers, 0);
+            relations.topLayer = 0;
             boolean isRising = true;
             for (int round = 0; isRising && round < FAR_OFF; round++) {
                 isRising = false;
@@ -1050,6 +1052,7 @@ public final class DatalogMill {
             }
             boolean isLifted = layer > relations.layers[rule.relation];
             relations.layers[rule.relation] = layer;
+            relations.topLayer = Math.max(relations.topLayer, layer);
             return isLifted;
         }
     }
@@ -1312,6 +1315,9 @@ public final class DatalogMill {
         }
 
         private void release(int fresh) {
+            if (fresh == 0) {
+                return;
+            }
             for (int slot = 0; slot < VARIABLES; slot++) {
                 if ((fresh >> slot & 1) != 0) {
                     values[slot] = NONE;
@@ -1442,7 +1448,10 @@ public final class DatalogMill {
             this.rule = joiner.rule;
         }
 
-        /** Fills the rows with what follows at a time, without two facts; answers whether it is not too much. */
+        /**
+         * Fills the target with what follows at a time, without two facts (or one, told twice, or none);
+         * answers whether it is not too much.
+         */
         boolean run(Rows target, int time, int firstGone, int secondGone) {
             rows = target;
             rows.clear();
@@ -1451,7 +1460,7 @@ public final class DatalogMill {
                     rows.put(factList.relations[place], factList.codes[place], 0);
                 }
             }
-            for (int layer = 0; layer < MOST_RELATIONS && !rows.isTooMuch; layer++) {
+            for (int layer = 0; layer <= relations.topLayer && !rows.isTooMuch; layer++) {
                 isGrowing = true;
                 for (int turn = 0; isGrowing && !rows.isTooMuch && turn < FAR_OFF; turn++) {
                     round = turn;

@@ -80,6 +80,8 @@ final class MillOracle {
     int came;
     int went;
     World world = new World(0);
+    /** Whether the last change was refused for that. */
+    boolean isTooMuch;
 
     // ---- the calls
 
@@ -455,6 +457,7 @@ final class MillOracle {
 
     private void change(List<Fact> newFacts, List<Rule> newRules, int newTime) {
         World then = follow(newFacts, newRules);
+        isTooMuch = then == null;
         if (then == null) {
             throw new IllegalStateException();
         }

@@ -31,6 +31,8 @@ public final class OracleTest {
     private final List<String> log = new ArrayList<>();
     private final int domain;
     private final int valuedShare;
+    private final int guardedShare;
+    private final int unorderedShare;
     private int made = 0;
 
     private OracleTest(long seed) {
@@ -39,6 +41,8 @@ public final class OracleTest {
         int[] domains = {3, 4, 6, 10, 30, 100};
         domain = domains[random.nextInt(domains.length)];
         valuedShare = random.nextInt(101);
+        guardedShare = random.nextInt(4) == 0 ? 30 : 2;
+        unorderedShare = random.nextInt(3) == 0 ? 100 : 8;
     }
 
     public static void main(String[] arguments) {
@@ -59,10 +63,12 @@ public final class OracleTest {
 
     /** The runs are of worth only if they come through all answers that matter. */
     private static void requireVariety() {
-        String[] wanted = {"add -2", "add -3", "add -4", "add -5", "repair -1", "repair 1", "repair 2", "goals 500",
-            "fact IllegalStateException", "height -1", "layer 3"};
+        String[] wanted = {"add -2", "add -3", "add -4", "add -5", "repair -1", "repair 1", "repair 2", "goals 20",
+            "fact IllegalStateException", "height -1", "height 3", "layer 3", "growing rule", "too much by takeBack",
+            "too much by drop", "too much by pass", "too much by fact", "repairAt 5", "reaches 4", "count 32"};
         for (String name : wanted) {
             if (!SEEN.containsKey(name)) {
+                wrong++;
                 System.out.println("no run came to: " + name);
             }
         }
@@ -146,6 +152,7 @@ public final class OracleTest {
         String got;
         String due;
         int value = Integer.MIN_VALUE;
+        oracle.isTooMuch = false;
         try {
             got = Integer.toString(answer(mill, call, x));
         } catch (RuntimeException e) {
@@ -163,6 +170,9 @@ public final class OracleTest {
         }
         log.add(text.append(") = ").append(due).toString());
         SEEN.merge(NAMES[call] + " " + (due.length() > 3 || call != ROW_AT ? due : "row"), 1, Integer::sum);
+        if (oracle.isTooMuch) {
+            SEEN.merge("too much by " + NAMES[call], 1, Integer::sum);
+        }
         if (!got.equals(due)) {
             wrong++;
             System.out.println("seed " + seed + ", call " + made + ": " + text + ", but the answer was " + got);
@@ -184,8 +194,11 @@ public final class OracleTest {
     }
 
     private void run() {
+        if (seed % 5 == 0) {
+            beginOnTheBrink();
+        }
         int relations = 2 + below(5);
-        for (int i = 0; i < relations; i++) {
+        for (int i = oracle.relations.size(); i < relations; i++) {
             call(RELATION, 1 + below(3), chance(valuedShare) ? 1 + below(2) : 0);
         }
         int begun = below(12);
@@ -199,6 +212,37 @@ public final class OracleTest {
             }
         }
         dump();
+    }
+
+    /** Six rows, whose pairs would be too many rows if it were not for a guard, and something that must not be. */
+    private void beginOnTheBrink() {
+        call(RELATION, 1, 0);
+        call(RELATION, 1, below(2));
+        call(RELATION, 2, 0);
+        for (int i = 0; i < 6; i++) {
+            call(FACT, 0, i, 0, 0, 1 + below(9), chance(90) ? -1 : 1 + below(9));
+        }
+        int guards = 1 + below(3);
+        for (int i = 0; i < guards; i++) {
+            call(FACT, 1, i, 0, 0, 1 + below(9), chance(50) ? -1 : 1 + below(9));
+        }
+        int first = below(2);
+        for (int i = 0; i < 2; i++) {
+            if (i == first) {
+                call(RULE, 0, 2, 100, 101, 0);
+                call(ATOM, 0, 0, 100, 0, 0);
+                call(ATOM, 0, 0, 101, 0, 0);
+                call(ATOM, 1, 1, chance(50) ? -1 : below(2), 0, 0);
+            } else {
+                call(RULE, 3, -1, 0, 0, 0);
+                call(ATOM, chance(70) ? 1 : 0, 0, chance(50) ? -1 : below(3), 0, 0);
+                call(ATOM, chance(50) ? 1 : 0, 0, chance(50) ? -1 : below(3), 0, 0);
+            }
+            call(ADD);
+        }
+        call(NEEDS, 1, 0, 0, 0);
+        call(NEEDS, 0, 0, 0, 0);
+        askRepair();
     }
 
     private void change() {
@@ -226,6 +270,12 @@ public final class OracleTest {
 
     private int anyRelation() {
         return below(oracle.relations.size());
+    }
+
+    /** Mostly a relation ahead of this one, so that rules seldom run in circles that are refused. */
+    private int relationAhead(int head, boolean canBeHead) {
+        int ahead = canBeHead ? head + 1 : head;
+        return ahead == 0 || chance(unorderedShare) ? anyRelation() : below(ahead);
     }
 
     private int columns(int relation) {
@@ -283,6 +333,13 @@ public final class OracleTest {
 
     /** The literals are told first to lists, so that the head can be made of what they know. */
     private void tellRule() {
+        if (oracle.rules.size() == 10 && chance(90)) {
+            call(DROP, anyRule());
+        }
+        if (chance(guardedShare)) {
+            tellGuardedRule();
+            return;
+        }
         List<int[]> body = new ArrayList<>();
         List<Integer> known = new ArrayList<>();
         int kinds = below(100);
@@ -295,7 +352,7 @@ public final class OracleTest {
         for (int i = 0; i < literals; i++) {
             int dice = below(100);
             if (i == 0 && chance(95) || dice < 45) {
-                int r = isGrowing && chance(50) ? head : anyRelation();
+                int r = isGrowing && chance(50) ? head : relationAhead(head, kind == 0);
                 body.add(positive(r, variables, known, i == 0));
                 if (isGrowing && r == head && value == -1 && chance(90)) {
                     int v = 106;
@@ -304,7 +361,7 @@ public final class OracleTest {
                     known.add(v);
                 }
             } else if (dice < 60) {
-                body.add(negated(known, variables));
+                body.add(negated(relationAhead(head, false), known, variables));
             } else if (dice < 78) {
                 int left = value != -1 && chance(30) ? value : some(known, 10);
                 body.add(new int[] {COMPARE, below(4), left, some(known, 40)});
@@ -334,10 +391,34 @@ public final class OracleTest {
         for (int[] l : body) {
             tell(l);
         }
-        call(ADD);
+        int added = call(ADD);
+        if (isGrowing && value != -1 && added >= 0) {
+            SEEN.merge("growing rule", 1, Integer::sum);
+        }
         if (chance(15)) {
             call(CAME);
         }
+    }
+
+    /** A rule that makes many rows unless a negated atom keeps it from that: then less can be too much. */
+    private void tellGuardedRule() {
+        int head = anyRelation();
+        int one = relationAhead(head, false);
+        int other = chance(50) ? one : relationAhead(head, false);
+        int guard = relationAhead(head, false);
+        int[] h = new int[3];
+        int[][] l = {{ATOM, one, 0, 0, 0, 0}, {ATOM, other, 0, 0, 0, 0}, {ATOM, guard, 1, 0, 0, 0}};
+        for (int i = 0; i < 3; i++) {
+            h[i] = i < columns(head) ? (i == 1 ? 103 : 100) : 0;
+            l[0][3 + i] = i < columns(one) ? 100 + i : 0;
+            l[1][3 + i] = i < columns(other) ? 103 + i : 0;
+            l[2][3 + i] = i < columns(guard) ? (chance(60) ? -1 : below(domain)) : 0;
+        }
+        call(RULE, 0, head, h[0], h[1], h[2]);
+        for (int[] literal : l) {
+            tell(literal);
+        }
+        call(ADD);
     }
 
     private void tell(int[] l) {
@@ -361,8 +442,7 @@ public final class OracleTest {
         return l;
     }
 
-    private int[] negated(List<Integer> known, int variables) {
-        int r = anyRelation();
+    private int[] negated(int r, List<Integer> known, int variables) {
         int[] l = {ATOM, r, 1, 0, 0, 0};
         for (int i = 0; i < columns(r); i++) {
             l[3 + i] = chance(25) ? -1 : chance(4) ? 100 + below(variables) : some(known, 15);
