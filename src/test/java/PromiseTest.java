@@ -65,6 +65,7 @@ public final class PromiseTest {
         promise11();
         promise12();
         promise12Unsafe();
+        allVariables();
         promise12Layerless();
         promise12Shrinking();
         promise12TooMuch();
@@ -517,6 +518,36 @@ public final class PromiseTest {
         due("rules", m.rules(), 3);
     }
 
+    /** Each of the eight variables in each place where one can stand. */
+    private static void allVariables() {
+        place = "variables";
+        for (int v = X; v <= LAST; v++) {
+            DatalogMill m = plain(2, 2);
+            int other = v == X ? Y : v - 1;
+            fact(m, 0, 3, 4);
+            fact(m, 0, 5, 5);
+            rule(m, FOLLOWS, 1, v, other);
+            atom(m, 0, v, ANY);
+            m.reckon(other, PLUS, 1, v);
+            m.compare(LESS, other, 9);
+            not(m, 0, other, v);
+            due("add", m.add(), 0);
+            dueRows(m, 1, 30400, 50600);
+            rule(m, SUMS, 1, 9, v);
+            atom(m, 0, other, v);
+            due("add", m.add(), 1);
+            dueRows(m, 1, 30400, 50600, 90900);
+            rule(m, FOLLOWS, 1, v, v);
+            atom(m, 0, v, v);
+            due("add", m.add(), 2);
+            dueRows(m, 1, 30400, 50500, 50600, 90900);
+            due("goals: 1(7, 7), 0(7, ANY), 0(7, 7)", m.goals(1, 7, 7, 0), 3);
+            due("goals: 1(9, 7), 0(9, ANY), 0(ANY, ANY)", m.goals(1, 9, 7, 0), 3);
+            due("reaches", m.reaches(0, 3, 4, 0), 4);
+            due("height", m.height(1, 5, 6, 0), 1);
+        }
+    }
+
     private static void promise12Layerless() {
         place = "promise 12, LAYERLESS";
         DatalogMill m = plain(1, 1, 1, 2);
@@ -773,6 +804,40 @@ public final class PromiseTest {
         due("order", full.bindings(1), 0);
         full.drop(2);
         due("rules", full.rules(), 1);
+        dropInTheMiddle();
+    }
+
+    /** A rule that may not go stays where it was, and so do the others. */
+    private static void dropInTheMiddle() {
+        for (int guard = 0; guard < 4; guard++) {
+            DatalogMill m = plain(1, 1, 2, 1);
+            for (int i = 0; i < 6; i++) {
+                fact(m, 0, i);
+            }
+            for (int i = 0; i < 4; i++) {
+                rule(m, FOLLOWS, i == guard ? 1 : 3, 10 + i);
+                m.compare(SAME, 1, 1);
+                due("add", m.add(), i);
+            }
+            rule(m, FOLLOWS, 2, X, Y);
+            atom(m, 0, X);
+            atom(m, 0, Y);
+            not(m, 1, ANY);
+            due("add", m.add(), 4);
+            int kept = guard;
+            refused("drop(" + guard + ")", STATE, () -> { m.drop(kept); return 0; });
+            due("rules", m.rules(), 5);
+            due("layer", m.layer(2), 1);
+            for (int i = 0; i < 4; i++) {
+                due("rule " + i, m.reaches(i, 10 + i, 0, 0), 1);
+            }
+            m.takeBack(0, 3, 0, 0);
+            m.drop(guard);
+            due("count", m.count(2), 25);
+            refused("bindings(" + guard + ")", INDEX, () -> m.bindings(kept));
+            due("rules", m.rules(), 4);
+            due("count", m.count(3), 3);
+        }
     }
 
     private static void promise15() {
@@ -1331,6 +1396,22 @@ public final class PromiseTest {
         m.takeBack(0, 5, 0, 0);
         due("repair", m.repair(), 1);
         due("first", m.repairAt(0), 5);
+        DatalogMill o = plain(1, 1, 2);
+        fact(o, 0, 7);
+        for (int i = 0; i < 6; i++) {
+            fact(o, 1, i);
+        }
+        rule(o, FOLLOWS, 2, X, Y);
+        atom(o, 1, X);
+        atom(o, 1, Y);
+        not(o, 0, ANY);
+        o.add();
+        rule(o, NEVER, NONE);
+        atom(o, 0, ANY);
+        o.add();
+        due("repair, the guard ahead", o.repair(), 2);
+        due("first", o.repairAt(0), 0);
+        due("second", o.repairAt(1), 1);
         DatalogMill n = plain(1, 1);
         fact(n, 0, 1);
         rule(n, NEVER, NONE);
