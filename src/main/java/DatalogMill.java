@@ -41,7 +41,6 @@ public final class DatalogMill {
     private final FactList factList;
     private final RuleBook book;
     private final Joiner joiner;
-    private final Visitor bystander;
     private final Groups groups;
     private final Derivation derivation;
     private final Costs costs;
@@ -65,8 +64,7 @@ public final class DatalogMill {
         rows = new Rows(relations);
         spare = new Rows(relations);
         draft = new Rule();
-        bystander = new Visitor();
-        joiner = new Joiner(draft, rows, bystander);
+        joiner = new Joiner(draft, rows);
         groups = new Groups(joiner);
         derivation = new Derivation(book, factList, joiner, groups, rows);
         costs = new Costs(book, factList, joiner, groups, rows);
@@ -353,7 +351,7 @@ public final class DatalogMill {
         if (asked.kind != FOLLOWS || !areWithin(asked.columns, 0, MOST_NUMBER, a, b, c)) {
             throw new IllegalArgumentException("the rule is not FOLLOWS, or its relation cannot have such a row");
         }
-        joiner.begin(asked, rows, bystander);
+        joiner.begin(asked, rows, null);
         joiner.most = 1;
         if (!joiner.putInHead(asked.columns, codeOf(a, b, c))) {
             return NONE;
@@ -366,7 +364,7 @@ public final class DatalogMill {
 
     public int bindings(int rule) throws IndexOutOfBoundsException {
         int place = placeOfRule(rule);
-        joiner.begin(book.rules[place], rows, bystander);
+        joiner.begin(book.rules[place], rows, null);
         joiner.step(0);
         return joiner.bindings;
     }
@@ -442,7 +440,7 @@ public final class DatalogMill {
 
     private int waysOf(Rule rule, int code) {
         boolean isGrouped = rule.kind != FOLLOWS;
-        joiner.begin(rule, rows, isGrouped ? groups : bystander);
+        joiner.begin(rule, rows, isGrouped ? groups : null);
         groups.begin(rule);
         if (!joiner.putInHead(isGrouped ? rule.columns - 1 : rule.columns, code)) {
             return 0;
@@ -1169,15 +1167,13 @@ public final class DatalogMill {
         }
     }
 
-    /** Is shown what a Joiner comes to; this one lets it go on and does nothing else. */
-    private static class Visitor {
+    /** Is shown what a Joiner comes to. */
+    private abstract static class Visitor {
         /** The literals ahead of this one hold; answers whether to look at it (behind the last: a binding). */
-        boolean reach(int literal) {
-            return true;
-        }
+        abstract boolean reach(int literal);
     }
 
-    /** Goes through the bindings of a rule, literal by literal, and shows a Visitor how far it comes. */
+    /** Goes through the bindings of a rule, literal by literal, and shows a Visitor, if any, how far it comes. */
     private static final class Joiner {
         final int[] values = new int[VARIABLES];
         /** For each atom that is not negated, where the row stands that it has now. */
@@ -1189,14 +1185,14 @@ public final class DatalogMill {
         private boolean isStopped;
         private Rule rule;
         private Rows rows;
+        /** Null, if none looks on. */
         private Visitor visitor;
         private int round;
         private int newAt;
 
-        Joiner(Rule rule, Rows rows, Visitor visitor) {
+        Joiner(Rule rule, Rows rows) {
             this.rule = rule;
             this.rows = rows;
-            this.visitor = visitor;
         }
 
         void begin(Rule newRule, Rows newRows, Visitor newVisitor) {
@@ -1248,9 +1244,9 @@ public final class DatalogMill {
         }
 
         /** Goes on from this literal; the rule's few literals keep the recursion flat. */
-        void step(int literal) {
+        private void step(int literal) {
             deepest = Math.max(deepest, literal);
-            boolean goesOn = visitor.reach(literal);
+            boolean goesOn = visitor == null || visitor.reach(literal);
             if (literal >= rule.size) {
                 bindings++;
                 isStopped = isStopped || bindings >= most;
@@ -1388,7 +1384,15 @@ public final class DatalogMill {
             isTooMuch = false;
         }
 
+        /** Once the head is known, going on is of use only if its group can still grow. */
         boolean reach(int literal) {
+            if (literal < rule.headKnownAt) {
+                return true;
+            }
+            int group = placeOf(rule.headCode(joiner.values, rule.columns - 1));
+            if (group < size && totals[group] >= MOST_NUMBER) {
+                return false;
+            }
             if (literal >= rule.size && takeBinding() == NONE) {
                 joiner.stop();
             }
@@ -1398,10 +1402,7 @@ public final class DatalogMill {
         /** Puts the binding of now into its group; answers which one, or NONE if there would be too many. */
         int takeBinding() {
             int key = rule.headCode(joiner.values, rule.columns - 1);
-            int group = 0;
-            while (group < size && keys[group] != key) {
-                group++;
-            }
+            int group = placeOf(key);
             if (group >= MOST_ROWS) {
                 isTooMuch = true;
                 return NONE;
@@ -1419,6 +1420,15 @@ public final class DatalogMill {
             return group;
         }
 
+        /** Where the group with this key stands, or would stand if there was one more. */
+        private int placeOf(int key) {
+            int group = 0;
+            while (group < size && keys[group] != key) {
+                group++;
+            }
+            return group;
+        }
+
         int rowOf(int group) {
             boolean isGroup = group >= 0 && group < size && rule.columns > 0;
             return isGroup ? keys[group] + totals[group] * UNITS[rule.columns - 1] : NONE;
@@ -1432,7 +1442,6 @@ public final class DatalogMill {
         private final FactList factList;
         private final Joiner joiner;
         private final Groups groups;
-        private final Visitor bystander = new Visitor();
         private Rows rows;
         private Rule rule;
         private int round;
@@ -1481,7 +1490,7 @@ public final class DatalogMill {
         boolean isBroken(Rows ofRows) {
             for (int place = 0; place < book.size; place++) {
                 if (book.rules[place].kind == NEVER) {
-                    joiner.begin(book.rules[place], ofRows, bystander);
+                    joiner.begin(book.rules[place], ofRows, null);
                     joiner.most = 1;
                     joiner.step(0);
                     if (joiner.bindings > 0) {
