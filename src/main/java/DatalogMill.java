@@ -308,23 +308,15 @@ public final class DatalogMill {
     public int height(int relation, int a, int b, int c)
             throws IndexOutOfBoundsException, IllegalArgumentException {
         int code = codeOfRow(relation, a, b, c);
-        int place = rows.placeOf(relation, code);
-        if (place == NONE) {
-            return NONE;
-        }
-        findCosts();
-        return costs.heights[relation][place];
+        int place = placeWithCosts(relation, code);
+        return place == NONE ? NONE : costs.heights[relation][place];
     }
 
     public int price(int relation, int a, int b, int c)
             throws IndexOutOfBoundsException, IllegalArgumentException {
         int code = codeOfRow(relation, a, b, c);
-        int place = rows.placeOf(relation, code);
-        if (place == NONE) {
-            return NONE;
-        }
-        findCosts();
-        return costs.prices[relation][place];
+        int place = placeWithCosts(relation, code);
+        return place == NONE ? NONE : costs.prices[relation][place];
     }
 
     public int needs(int relation, int a, int b, int c)
@@ -431,11 +423,14 @@ public final class DatalogMill {
         isRepairKnown = false;
     }
 
-    private void findCosts() {
-        if (!areCostsKnown) {
+    /** The place of a row, for which the costs are known then; NONE if it is none. */
+    private int placeWithCosts(int relation, int code) {
+        int place = rows.placeOf(relation, code);
+        if (place != NONE && !areCostsKnown) {
             costs.find(rows);
             areCostsKnown = true;
         }
+        return place;
     }
 
     private int waysOf(Rule rule, int code) {

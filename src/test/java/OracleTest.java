@@ -1,3 +1,6 @@
+import java.lang.reflect.InvocationTargetException;
+import java.lang.reflect.Method;
+import java.lang.reflect.Modifier;
 import java.util.ArrayList;
 import java.util.List;
 import java.util.Map;
@@ -14,6 +17,10 @@ public final class OracleTest {
         "relation", "fact", "takeBack", "pass", "now", "facts", "rule", "atom", "compare", "reckon", "add", "drop",
         "rules", "layer", "count", "rowAt", "holds", "holdsAnew", "answers", "goals", "came", "went", "ways",
         "height", "price", "needs", "reaches", "bindings", "repair", "repairAt"};
+    private static final int[] LENGTHS = {
+        2, 6, 4, 1, 0, 0, 5, 5, 3, 4, 0, 1, 0, 1, 1, 2, 4, 4, 4, 4, 0, 0, 4, 4, 4, 4, 4, 1, 0, 1};
+    private static final Method[] ON_MILL = methodsOf(DatalogMill.class);
+    private static final Method[] ON_ORACLE = methodsOf(MillOracle.class);
     private static final int RELATION = 0, FACT = 1, TAKE_BACK = 2, PASS = 3, NOW = 4, FACTS = 5, RULE = 6, ATOM = 7;
     private static final int COMPARE = 8, RECKON = 9, ADD = 10, DROP = 11, RULES = 12, LAYER = 13, COUNT = 14;
     private static final int ROW_AT = 15, HOLDS = 16, HOLDS_ANEW = 17, ANSWERS = 18, GOALS = 19, CAME = 20, WENT = 21;
@@ -78,94 +85,42 @@ public final class OracleTest {
 
     // ---- one call on both
 
-    private static int answer(DatalogMill m, int call, int[] x) {
-        switch (call) {
-            case RELATION: return m.relation(x[0], x[1]);
-            case FACT: return m.fact(x[0], x[1], x[2], x[3], x[4], x[5]);
-            case TAKE_BACK: return m.takeBack(x[0], x[1], x[2], x[3]);
-            case PASS: return m.pass(x[0]);
-            case NOW: return m.now();
-            case FACTS: return m.facts();
-            case RULE: m.rule(x[0], x[1], x[2], x[3], x[4]); return 0;
-            case ATOM: return m.atom(x[0], x[1] == 1, x[2], x[3], x[4]);
-            case COMPARE: return m.compare(x[0], x[1], x[2]);
-            case RECKON: return m.reckon(x[0], x[1], x[2], x[3]);
-            case ADD: return m.add();
-            case DROP: m.drop(x[0]); return 0;
-            case RULES: return m.rules();
-            case LAYER: return m.layer(x[0]);
-            case COUNT: return m.count(x[0]);
-            case ROW_AT: return m.rowAt(x[0], x[1]);
-            case HOLDS: return m.holds(x[0], x[1], x[2], x[3]) ? 1 : 0;
-            case HOLDS_ANEW: return m.holdsAnew(x[0], x[1], x[2], x[3]) ? 1 : 0;
-            case ANSWERS: return m.answers(x[0], x[1], x[2], x[3]);
-            case GOALS: return m.goals(x[0], x[1], x[2], x[3]);
-            case CAME: return m.came();
-            case WENT: return m.went();
-            case WAYS: return m.ways(x[0], x[1], x[2], x[3]);
-            case HEIGHT: return m.height(x[0], x[1], x[2], x[3]);
-            case PRICE: return m.price(x[0], x[1], x[2], x[3]);
-            case NEEDS: return m.needs(x[0], x[1], x[2], x[3]);
-            case REACHES: return m.reaches(x[0], x[1], x[2], x[3]);
-            case BINDINGS: return m.bindings(x[0]);
-            case REPAIR: return m.repair();
-            default: return m.repairAt(x[0]);
+    private static Method[] methodsOf(Class<?> type) {
+        Method[] methods = new Method[NAMES.length];
+        for (Method m : type.getDeclaredMethods()) {
+            for (int i = 0; i < NAMES.length; i++) {
+                if (m.getName().equals(NAMES[i]) && m.getParameterCount() == LENGTHS[i]
+                        && !Modifier.isPrivate(m.getModifiers())) {
+                    methods[i] = m;
+                }
+            }
         }
+        return methods;
     }
 
-    private static int answer(MillOracle m, int call, int[] x) {
-        switch (call) {
-            case RELATION: return m.relation(x[0], x[1]);
-            case FACT: return m.fact(x[0], x[1], x[2], x[3], x[4], x[5]);
-            case TAKE_BACK: return m.takeBack(x[0], x[1], x[2], x[3]);
-            case PASS: return m.pass(x[0]);
-            case NOW: return m.now();
-            case FACTS: return m.facts();
-            case RULE: m.rule(x[0], x[1], x[2], x[3], x[4]); return 0;
-            case ATOM: return m.atom(x[0], x[1] == 1, x[2], x[3], x[4]);
-            case COMPARE: return m.compare(x[0], x[1], x[2]);
-            case RECKON: return m.reckon(x[0], x[1], x[2], x[3]);
-            case ADD: return m.add();
-            case DROP: m.drop(x[0]); return 0;
-            case RULES: return m.rules();
-            case LAYER: return m.layer(x[0]);
-            case COUNT: return m.count(x[0]);
-            case ROW_AT: return m.rowAt(x[0], x[1]);
-            case HOLDS: return m.holds(x[0], x[1], x[2], x[3]) ? 1 : 0;
-            case HOLDS_ANEW: return m.holdsAnew(x[0], x[1], x[2], x[3]) ? 1 : 0;
-            case ANSWERS: return m.answers(x[0], x[1], x[2], x[3]);
-            case GOALS: return m.goals(x[0], x[1], x[2], x[3]);
-            case CAME: return m.came();
-            case WENT: return m.went();
-            case WAYS: return m.ways(x[0], x[1], x[2], x[3]);
-            case HEIGHT: return m.height(x[0], x[1], x[2], x[3]);
-            case PRICE: return m.price(x[0], x[1], x[2], x[3]);
-            case NEEDS: return m.needs(x[0], x[1], x[2], x[3]);
-            case REACHES: return m.reaches(x[0], x[1], x[2], x[3]);
-            case BINDINGS: return m.bindings(x[0]);
-            case REPAIR: return m.repair();
-            default: return m.repairAt(x[0]);
+    /** What the call answers, as a text, or the name of what it throws. */
+    private static String answer(Method method, Object target, int[] x) {
+        Object[] arguments = new Object[x.length];
+        for (int i = 0; i < x.length; i++) {
+            boolean isTruth = method.getParameterTypes()[i] == boolean.class;
+            arguments[i] = isTruth ? (Object) (x[i] == 1) : (Object) x[i];
+        }
+        try {
+            Object answered = method.invoke(target, arguments);
+            return answered instanceof Boolean ? ((Boolean) answered ? "1" : "0") : String.valueOf(answered);
+        } catch (InvocationTargetException e) {
+            return e.getCause().getClass().getSimpleName();
+        } catch (IllegalAccessException e) {
+            throw new AssertionError(e);
         }
     }
 
     private int call(int call, int... x) {
         calls++;
         made++;
-        String got;
-        String due;
-        int value = Integer.MIN_VALUE;
         oracle.isTooMuch = false;
-        try {
-            got = Integer.toString(answer(mill, call, x));
-        } catch (RuntimeException e) {
-            got = e.getClass().getSimpleName();
-        }
-        try {
-            value = answer(oracle, call, x);
-            due = Integer.toString(value);
-        } catch (RuntimeException e) {
-            due = e.getClass().getSimpleName();
-        }
+        String got = answer(ON_MILL[call], mill, x);
+        String due = answer(ON_ORACLE[call], oracle, x);
         StringBuilder text = new StringBuilder(NAMES[call]).append('(');
         for (int i = 0; i < x.length; i++) {
             text.append(i == 0 ? "" : ", ").append(x[i]);
@@ -182,7 +137,7 @@ public final class OracleTest {
                 log.forEach(System.out::println);
             }
         }
-        return value;
+        return due.matches("-?[0-9]+") ? Integer.parseInt(due) : Integer.MIN_VALUE;
     }
 
     // ---- a run
@@ -548,8 +503,7 @@ public final class OracleTest {
             x[i] = dice < 40 ? below(8) - 1 : dice < 60 ? 0 : dice < 80 ? 95 + below(16) : dice < 95 ? below(100)
                     : random.nextInt();
         }
-        int[] lengths = {2, 6, 4, 1, 0, 0, 5, 5, 3, 4, 0, 1, 0, 1, 1, 2, 4, 4, 4, 4, 0, 0, 4, 4, 4, 4, 4, 1, 0, 1};
-        int[] y = new int[lengths[name]];
+        int[] y = new int[LENGTHS[name]];
         System.arraycopy(x, 0, y, 0, y.length);
         call(name, y);
     }
