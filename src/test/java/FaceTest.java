@@ -1,8 +1,11 @@
+import java.io.IOException;
 import java.lang.reflect.Constructor;
 import java.lang.reflect.Field;
 import java.lang.reflect.Member;
 import java.lang.reflect.Method;
 import java.lang.reflect.Modifier;
+import java.nio.file.Files;
+import java.nio.file.Path;
 import java.util.ArrayList;
 import java.util.Arrays;
 import java.util.List;
@@ -23,12 +26,13 @@ public final class FaceTest {
         }
     }
 
-    public static void main(String[] arguments) throws IllegalAccessException {
+    public static void main(String[] arguments) throws IllegalAccessException, IOException {
         due("the class", Modifier.toString(DatalogMill.class.getModifiers()), "public final");
         due("constructors", shown(DatalogMill.class.getDeclaredConstructors()), List.of("DatalogMill() []"));
         due("methods", shown(DatalogMill.class.getDeclaredMethods()), methods());
         due("constants", constants(), dueConstants());
         dueHidden();
+        dueHeadings();
         System.out.println(wrong + " faults of the face");
         if (wrong != 0) {
             System.exit(1);
@@ -113,6 +117,25 @@ public final class FaceTest {
         }
         due.put("public static final int ANY", -1);
         return due.toString();
+    }
+
+    /** The methods stand in the source in the document's order, under its headings. */
+    private static void dueHeadings() throws IOException {
+        String[] dueLines = {
+            "---- relations and facts", "relation", "fact", "takeBack", "pass", "now", "facts",
+            "---- rules", "rule", "atom", "compare", "reckon", "add", "drop", "rules", "layer",
+            "---- rows", "count", "rowAt", "holds", "holdsAnew", "answers", "goals", "came", "went",
+            "---- ways", "ways", "height", "price", "needs", "reaches",
+            "---- what must never follow", "bindings", "repair", "repairAt"};
+        List<String> lines = new ArrayList<>();
+        for (String line : Files.readAllLines(Path.of("src", "main", "java", "DatalogMill.java"))) {
+            if (line.startsWith("    // ---- ") && lines.size() < dueLines.length) {
+                lines.add(line.substring(7));
+            } else if (line.matches("    public (int|void|boolean) .*")) {
+                lines.add(line.replaceAll("^    public [a-z]+ ([a-zA-Z]+)\\(.*$", "$1"));
+            }
+        }
+        due("the order of the interface", lines, List.of(dueLines));
     }
 
     /** Rules 1 and 11 of LANGUAGE.md, as far as they can be seen from here. */

@@ -2,56 +2,7 @@
  * For each promise of the document ordinary inputs, the edges that it names, and wrong inputs. What is due was
  * worked out by hand from the document. A method promiseN tests promise N.
  */
-public final class PromiseTest {
-    private static final int X = 100, Y = 101, Z = 102, V = 103, W = 104, U = 105, LAST = 107;
-    private static final int NONE = DatalogMill.NONE, ANY = DatalogMill.ANY;
-    private static final int PLAIN = DatalogMill.PLAIN, LEAST = DatalogMill.LEAST, GREATEST = DatalogMill.GREATEST;
-    private static final int FOLLOWS = DatalogMill.FOLLOWS, COUNTS = DatalogMill.COUNTS;
-    private static final int SUMS = DatalogMill.SUMS, NEVER = DatalogMill.NEVER;
-    private static final int SAME = DatalogMill.SAME, UNLIKE = DatalogMill.UNLIKE;
-    private static final int LESS = DatalogMill.LESS, AT_MOST = DatalogMill.AT_MOST;
-    private static final int PLUS = DatalogMill.PLUS, MINUS = DatalogMill.MINUS, TIMES = DatalogMill.TIMES;
-    private static final int LESSER = DatalogMill.LESSER, GREATER = DatalogMill.GREATER, REST = DatalogMill.REST;
-    private static final int UNSAFE = DatalogMill.UNSAFE, LAYERLESS = DatalogMill.LAYERLESS;
-    private static final int SHRINKING = DatalogMill.SHRINKING, TOO_MUCH = DatalogMill.TOO_MUCH;
-    private static final int INDEX = 1, ARGUMENT = 2, STATE = 3;
-
-    private static int wrong = 0;
-    private static int checks = 0;
-    private static String place = "";
-
-    private interface Call {
-        long answer();
-    }
-
-    private static void due(String call, long got, long want) {
-        checks++;
-        if (got != want) {
-            wrong++;
-            System.out.println(place + ": " + call + " answered " + got + ", due is " + want);
-        }
-    }
-
-    private static void due(String call, boolean got, boolean want) {
-        due(call, got ? 1 : 0, want ? 1 : 0);
-    }
-
-    private static void refused(String what, int want, Call call) {
-        int got = 0;
-        try {
-            call.answer();
-        } catch (IndexOutOfBoundsException e) {
-            got = e.getClass() == IndexOutOfBoundsException.class ? INDEX : -1;
-        } catch (IllegalArgumentException e) {
-            got = ARGUMENT;
-        } catch (IllegalStateException e) {
-            got = STATE;
-        } catch (RuntimeException e) {
-            got = -1;
-        }
-        due(what + " throws (1 IndexOutOfBounds, 2 IllegalArgument, 3 IllegalState, 0 nothing)", got, want);
-    }
-
+public final class PromiseTest extends Checks {
     public static void main(String[] arguments) {
         promise1();
         promise2();
@@ -85,79 +36,7 @@ public final class PromiseTest {
         rowsByLayers();
         groups();
         reckonings();
-        System.out.println(checks + " checks, " + wrong + " not as due");
-        if (wrong != 0) {
-            System.exit(1);
-        }
-    }
-
-    // ---- shorthands
-
-    private static void fact(DatalogMill m, int relation, int... row) {
-        m.fact(relation, row[0], row.length > 1 ? row[1] : 0, row.length > 2 ? row[2] : 0, 1, NONE);
-    }
-
-    private static void rule(DatalogMill m, int kind, int relation, int... head) {
-        int n = head.length;
-        m.rule(kind, relation, n > 0 ? head[0] : 0, n > 1 ? head[1] : 0, n > 2 ? head[2] : 0);
-    }
-
-    private static void atom(DatalogMill m, int relation, int... terms) {
-        m.atom(relation, false, terms[0], terms.length > 1 ? terms[1] : 0, terms.length > 2 ? terms[2] : 0);
-    }
-
-    private static void not(DatalogMill m, int relation, int... terms) {
-        m.atom(relation, true, terms[0], terms.length > 1 ? terms[1] : 0, terms.length > 2 ? terms[2] : 0);
-    }
-
-    /** Relations with the columns of the digits, all PLAIN. */
-    private static DatalogMill plain(int... columns) {
-        DatalogMill m = new DatalogMill();
-        for (int c : columns) {
-            m.relation(c, PLAIN);
-        }
-        return m;
-    }
-
-    private static int[] allRows(DatalogMill m, int relation) {
-        int[] rows = new int[m.count(relation)];
-        for (int i = 0; i < rows.length; i++) {
-            rows[i] = m.rowAt(relation, i);
-        }
-        return rows;
-    }
-
-    private static void dueRows(DatalogMill m, int relation, int... want) {
-        due("rows of " + relation + ": " + java.util.Arrays.toString(allRows(m, relation)) + ", due "
-                + java.util.Arrays.toString(want), java.util.Arrays.equals(allRows(m, relation), want), true);
-    }
-
-    /** edge 0, path 1 with the two rules of its closure: numbers 0 and 1. */
-    private static DatalogMill paths() {
-        DatalogMill m = plain(2, 2, 1);
-        rule(m, FOLLOWS, 1, X, Y);
-        atom(m, 0, X, Y);
-        due("add", m.add(), 0);
-        rule(m, FOLLOWS, 1, X, Z);
-        atom(m, 1, X, Y);
-        atom(m, 0, Y, Z);
-        due("add", m.add(), 1);
-        return m;
-    }
-
-    /** In relation 2 (two columns) pairs of the rows of 0, unless 1 has a row: six rows are too much. */
-    private static DatalogMill brink() {
-        DatalogMill m = plain(1, 1, 2);
-        for (int i = 0; i < 6; i++) {
-            fact(m, 0, i);
-        }
-        fact(m, 1, 7);
-        rule(m, FOLLOWS, 2, X, Y);
-        atom(m, 0, X);
-        atom(m, 0, Y);
-        not(m, 1, ANY);
-        due("add", m.add(), 0);
-        return m;
+        end();
     }
 
     // ---- relations and facts
@@ -321,22 +200,22 @@ public final class PromiseTest {
     private static void promise8() {
         place = "promise 8";
         DatalogMill m = plain(2);
-        refused("FOLLOWS, NONE", INDEX, () -> { m.rule(FOLLOWS, NONE, 0, 0, 0); return 0; });
-        refused("COUNTS, 1", INDEX, () -> { m.rule(COUNTS, 1, 0, 0, 0); return 0; });
-        refused("NEVER, 0", INDEX, () -> { m.rule(NEVER, 0, 0, 0, 0); return 0; });
-        refused("NEVER, -2", INDEX, () -> { m.rule(NEVER, -2, 0, 0, 0); return 0; });
-        refused("kind 4, relation 1", INDEX, () -> { m.rule(4, 1, 0, 0, 0); return 0; });
-        refused("kind -1, relation -2", INDEX, () -> { m.rule(-1, -2, 0, 0, 0); return 0; });
-        refused("kind 4, relation 0", ARGUMENT, () -> { m.rule(4, 0, 0, 0, 0); return 0; });
-        refused("kind -1, NONE", ARGUMENT, () -> { m.rule(-1, NONE, 0, 0, 0); return 0; });
-        refused("ANY in the head", ARGUMENT, () -> { m.rule(FOLLOWS, 0, X, ANY, 0); return 0; });
-        refused("108", ARGUMENT, () -> { m.rule(FOLLOWS, 0, 108, X, 0); return 0; });
-        refused("behind the columns", ARGUMENT, () -> { m.rule(SUMS, 0, X, Y, Z); return 0; });
-        refused("NEVER with a term", ARGUMENT, () -> { m.rule(NEVER, NONE, 0, 0, 1); return 0; });
+        refused("FOLLOWS, NONE", INDEX, () -> m.rule(FOLLOWS, NONE, 0, 0, 0));
+        refused("COUNTS, 1", INDEX, () -> m.rule(COUNTS, 1, 0, 0, 0));
+        refused("NEVER, 0", INDEX, () -> m.rule(NEVER, 0, 0, 0, 0));
+        refused("NEVER, -2", INDEX, () -> m.rule(NEVER, -2, 0, 0, 0));
+        refused("kind 4, relation 1", INDEX, () -> m.rule(4, 1, 0, 0, 0));
+        refused("kind -1, relation -2", INDEX, () -> m.rule(-1, -2, 0, 0, 0));
+        refused("kind 4, relation 0", ARGUMENT, () -> m.rule(4, 0, 0, 0, 0));
+        refused("kind -1, NONE", ARGUMENT, () -> m.rule(-1, NONE, 0, 0, 0));
+        refused("ANY in the head", ARGUMENT, () -> m.rule(FOLLOWS, 0, X, ANY, 0));
+        refused("108", ARGUMENT, () -> m.rule(FOLLOWS, 0, 108, X, 0));
+        refused("behind the columns", ARGUMENT, () -> m.rule(SUMS, 0, X, Y, Z));
+        refused("NEVER with a term", ARGUMENT, () -> m.rule(NEVER, NONE, 0, 0, 1));
         refused("no draft was begun", STATE, () -> m.compare(SAME, 0, 0));
         m.rule(FOLLOWS, 0, 99, 0, 0);
         due("compare", m.compare(SAME, 0, 0), 1);
-        refused("a wrong rule", ARGUMENT, () -> { m.rule(FOLLOWS, 0, 108, X, 0); return 0; });
+        refused("a wrong rule", ARGUMENT, () -> m.rule(FOLLOWS, 0, 108, X, 0));
         due("compare goes on", m.compare(SAME, 0, 0), 2);
         m.rule(FOLLOWS, 0, 98, 97, 0);
         due("compare begins anew", m.compare(SAME, 0, 0), 1);
@@ -588,18 +467,6 @@ public final class PromiseTest {
         due("rules", m.rules(), 3);
     }
 
-    /** Relations: 0 edge (3), 1 LEAST (2), 2 GREATEST (2), 3 PLAIN (2), 4 LEAST (1), 5 PLAIN (1). */
-    private static DatalogMill valued() {
-        DatalogMill m = new DatalogMill();
-        m.relation(3, PLAIN);
-        m.relation(2, LEAST);
-        m.relation(2, GREATEST);
-        m.relation(2, PLAIN);
-        m.relation(1, LEAST);
-        m.relation(1, PLAIN);
-        return m;
-    }
-
     private static void dueFor(DatalogMill m, String what, boolean isGood) {
         int added = m.add();
         due(what, added == SHRINKING ? SHRINKING : added >= 0 ? 0 : added, isGood ? 0 : SHRINKING);
@@ -779,12 +646,12 @@ public final class PromiseTest {
         fact(m, 0, 2, 3);
         due("rules", m.rules(), 2);
         due("count", m.count(1), 3);
-        refused("drop(2)", INDEX, () -> { m.drop(2); return 0; });
-        refused("drop(-1)", INDEX, () -> { m.drop(-1); return 0; });
+        refused("drop(2)", INDEX, () -> m.drop(2));
+        refused("drop(-1)", INDEX, () -> m.drop(-1));
         m.drop(1);
         dueRows(m, 1, 10200, 20300);
         due("went", m.went(), 1);
-        refused("drop(1) again", INDEX, () -> { m.drop(1); return 0; });
+        refused("drop(1) again", INDEX, () -> m.drop(1));
         due("rules", m.rules(), 1);
         m.drop(0);
         due("rules", m.rules(), 0);
@@ -797,7 +664,7 @@ public final class PromiseTest {
         full.compare(SAME, 1, 1);
         due("add", full.add(), 2);
         full.takeBack(1, 7, 0, 0);
-        refused("too much", STATE, () -> { full.drop(2); return 0; });
+        refused("too much", STATE, () -> full.drop(2));
         due("rules", full.rules(), 3);
         due("still there", full.bindings(2), 1);
         full.drop(0);
@@ -825,7 +692,7 @@ public final class PromiseTest {
             not(m, 1, ANY);
             due("add", m.add(), 4);
             int kept = guard;
-            refused("drop(" + guard + ")", STATE, () -> { m.drop(kept); return 0; });
+            refused("drop(" + guard + ")", STATE, () -> m.drop(kept));
             due("rules", m.rules(), 5);
             due("layer", m.layer(2), 1);
             for (int i = 0; i < 4; i++) {
@@ -911,11 +778,11 @@ public final class PromiseTest {
         due("holds", m.holds(1, 1, 1, 0), false);
         due("holdsAnew", m.holdsAnew(1, 1, 1, 0), false);
         due("holdsAnew", m.holdsAnew(1, 1, 2, 0), true);
-        refused("holds", INDEX, () -> m.holds(3, 0, 0, 0) ? 1 : 0);
-        refused("holds", ARGUMENT, () -> m.holds(1, 0, 0, 1) ? 1 : 0);
-        refused("holds", ARGUMENT, () -> m.holds(1, ANY, 0, 0) ? 1 : 0);
-        refused("holdsAnew", INDEX, () -> m.holdsAnew(-1, 0, 0, 0) ? 1 : 0);
-        refused("holdsAnew", ARGUMENT, () -> m.holdsAnew(2, 100, 0, 0) ? 1 : 0);
+        refused("holds", INDEX, () -> m.holds(3, 0, 0, 0));
+        refused("holds", ARGUMENT, () -> m.holds(1, 0, 0, 1));
+        refused("holds", ARGUMENT, () -> m.holds(1, ANY, 0, 0));
+        refused("holdsAnew", INDEX, () -> m.holdsAnew(-1, 0, 0, 0));
+        refused("holdsAnew", ARGUMENT, () -> m.holdsAnew(2, 100, 0, 0));
         due("went is not changed by holdsAnew", m.went(), 4);
         DatalogMill v = valued();
         fact(v, 1, 4, 9);
