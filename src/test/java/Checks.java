@@ -25,6 +25,11 @@ abstract class Checks {
         void make();
     }
 
+    /** A call on a world. */
+    interface On {
+        void make(DatalogMill m);
+    }
+
     // ---- checks
 
     static void due(String call, long got, long want) {
@@ -142,6 +147,29 @@ abstract class Checks {
         return m.add();
     }
 
+    /** What a FOLLOWS rule with such a head of one term is answered by add, or 0 if it is added; it is dropped again. */
+    static int tried(DatalogMill m, int relation, int head, On... literals) {
+        rule(m, FOLLOWS, relation, head);
+        return triedDraft(m, literals);
+    }
+
+    /** The same with a head of two terms. */
+    static int triedPair(DatalogMill m, int relation, int a, int b, On... literals) {
+        rule(m, FOLLOWS, relation, a, b);
+        return triedDraft(m, literals);
+    }
+
+    private static int triedDraft(DatalogMill m, On... literals) {
+        for (On literal : literals) {
+            literal.make(m);
+        }
+        int answered = m.add();
+        if (answered >= 0) {
+            m.drop(answered);
+        }
+        return Math.min(0, answered);
+    }
+
     // ---- worlds
 
     /** Relations with the columns of the digits, all PLAIN. */
@@ -190,6 +218,29 @@ abstract class Checks {
         m.relation(2, PLAIN);
         m.relation(1, LEAST);
         m.relation(1, PLAIN);
+        return m;
+    }
+
+    /** The world with one fact of each of these rows, in relation 0. */
+    static DatalogMill with(DatalogMill m, int... rows) {
+        for (int n : rows) {
+            fact(m, 0, n);
+        }
+        return m;
+    }
+
+    /** So many rows in relations 0 and 1; 2 to 4 have three columns and are of each kind. */
+    static DatalogMill grouped(int first, int second) {
+        DatalogMill m = plain(1, 1);
+        for (int kind = PLAIN; kind <= GREATEST; kind++) {
+            m.relation(3, kind);
+        }
+        for (int i = 0; i < first; i++) {
+            fact(m, 0, i);
+        }
+        for (int i = 0; i < second; i++) {
+            fact(m, 1, i);
+        }
         return m;
     }
 }
