@@ -41,6 +41,8 @@ public final class OracleTest {
     private final int guardedShare;
     private final int unorderedShare;
     private int made = 0;
+    /** Whether the world began with a COUNTS or SUMS rule on the brink of too many groups. */
+    private boolean isGrouped;
 
     private OracleTest(long seed) {
         this.seed = seed;
@@ -74,7 +76,7 @@ public final class OracleTest {
     private static void requireVariety() {
         String[] wanted = {"add -2", "add -3", "add -4", "add -5", "repair -1", "repair 1", "repair 2", "goals 20",
             "fact IllegalStateException", "height -1", "height 3", "layer 3", "growing rule", "too much by takeBack",
-            "too much by drop", "too much by pass", "too much by fact", "repairAt 5", "reaches 4", "count 32"};
+            "too much by drop", "too much by pass", "too much by fact", "too many groups", "repairAt 5", "reaches 4", "count 32"};
         for (String name : wanted) {
             if (!SEEN.containsKey(name)) {
                 wrong++;
@@ -129,6 +131,7 @@ public final class OracleTest {
         SEEN.merge(NAMES[call] + " " + (due.length() > 3 || call != ROW_AT ? due : "row"), 1, Integer::sum);
         if (oracle.isTooMuch) {
             SEEN.merge("too much by " + NAMES[call], 1, Integer::sum);
+            SEEN.merge(isGrouped ? "too many groups" : "too many rows", 1, Integer::sum);
         }
         if (!got.equals(due)) {
             wrong++;
@@ -175,7 +178,10 @@ public final class OracleTest {
     private void beginOnTheBrink() {
         call(RELATION, 1, 0);
         call(RELATION, 1, below(2));
-        call(RELATION, 2, 0);
+        int columns = 2 + below(2);
+        int kind = columns == 3 ? below(3) : 0;
+        isGrouped = kind != 0;
+        call(RELATION, columns, below(3));
         for (int i = 0; i < 6; i++) {
             call(FACT, 0, i, 0, 0, 1 + below(9), chance(90) ? -1 : 1 + below(9));
         }
@@ -186,7 +192,7 @@ public final class OracleTest {
         int first = below(2);
         for (int i = 0; i < 2; i++) {
             if (i == first) {
-                call(RULE, 0, 2, 100, 101, 0);
+                call(RULE, kind, 2, 100, 101, 0);
                 call(ATOM, 0, 0, 100, 0, 0);
                 call(ATOM, 0, 0, 101, 0, 0);
                 call(ATOM, 1, 1, chance(50) ? -1 : below(2), 0, 0);
@@ -197,9 +203,33 @@ public final class OracleTest {
             }
             call(ADD);
         }
+        if (chance(70)) {
+            tryTheBrink(guards);
+        }
         call(NEEDS, 1, 0, 0, 0);
         call(NEEDS, 0, 0, 0, 0);
         askRepair();
+    }
+
+    /** Leaves a rule, or a fact that ends, as the only guard, and lets it go. */
+    private void tryTheBrink(int guards) {
+        boolean isRule = chance(50);
+        int guard = 50 + below(3);
+        if (isRule) {
+            call(RULE, 0, 1, guard, 0, 0);
+            call(COMPARE, 0, 1, 1);
+            guard = call(ADD);
+        } else {
+            call(FACT, 1, guard, 0, 0, 1, oracle.time + 2);
+        }
+        for (int i = 0; i < guards; i++) {
+            call(TAKE_BACK, 1, i, 0, 0);
+        }
+        if (isRule) {
+            call(DROP, guard);
+        } else {
+            call(PASS, 1 + below(3));
+        }
     }
 
     private void change() {
