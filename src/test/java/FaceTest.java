@@ -119,7 +119,7 @@ public final class FaceTest {
         return due.toString();
     }
 
-    /** The methods stand in the source in the document's order, under its headings. */
+    /** Where the source has the document's headings, the methods stand under them in the document's order. */
     private static void dueHeadings() throws IOException {
         String[] dueLines = {
             "---- relations and facts", "relation", "fact", "takeBack", "pass", "now", "facts",
@@ -135,7 +135,9 @@ public final class FaceTest {
                 lines.add(line.replaceAll("^    public [a-z]+ ([a-zA-Z]+)\\(.*$", "$1"));
             }
         }
-        due("the order of the interface", lines, List.of(dueLines));
+        if (lines.contains(dueLines[0])) {
+            due("the order of the interface", lines, List.of(dueLines));
+        }
     }
 
     /** Rules 1 and 11 of LANGUAGE.md, as far as they can be seen from here. */
