@@ -1,6 +1,7 @@
 import java.io.IOException;
 import java.lang.reflect.Constructor;
 import java.lang.reflect.Field;
+import java.lang.reflect.InvocationTargetException;
 import java.lang.reflect.Member;
 import java.lang.reflect.Method;
 import java.lang.reflect.Modifier;
@@ -9,6 +10,7 @@ import java.nio.file.Path;
 import java.util.ArrayList;
 import java.util.Arrays;
 import java.util.List;
+import java.util.Random;
 import java.util.TreeMap;
 import java.util.TreeSet;
 
@@ -33,6 +35,7 @@ public final class FaceTest {
         due("constants", constants(), dueConstants());
         dueHidden();
         dueHeadings();
+        dueThrown();
         System.out.println(wrong + " faults of the face");
         if (wrong != 0) {
             System.exit(1);
@@ -137,6 +140,61 @@ public final class FaceTest {
         }
         if (lines.contains(dueLines[0])) {
             due("the order of the interface", lines, List.of(dueLines));
+        }
+    }
+
+    /** Whatever is told, in whatever world: a call throws what its clause has, just that, and nothing else. */
+    private static void dueThrown() throws IllegalAccessException {
+        int[] numbers = {0, 1, -1, 2, 3, 99, 100, 107, 108, 5, 6, -2, 10, 31, 32, Integer.MIN_VALUE, Integer.MAX_VALUE};
+        Random random = new Random(1);
+        int thrown = 0;
+        for (Method m : DatalogMill.class.getMethods()) {
+            if (m.getDeclaringClass() != DatalogMill.class) {
+                continue;
+            }
+            for (int world = 0; world < 5; world++) {
+                DatalogMill mill = new DatalogMill();
+                for (int i = 0; i < 600; i++) {
+                    if (i % 100 == 0) {
+                        mill = worldOf(world);
+                    }
+                    // The first numbers, which are often good ones, come more often than the others.
+                    int end = 2 + random.nextInt(numbers.length - 1);
+                    thrown += throwsRightly(m, mill, random, Arrays.copyOf(numbers, end)) ? 1 : 0;
+                }
+            }
+        }
+        due("there were calls that threw: " + thrown, thrown > 10000, true);
+    }
+
+    private static DatalogMill worldOf(int world) {
+        DatalogMill m = world == 0 ? new DatalogMill() : world == 1 ? Checks.brink() : world == 2 ? Checks.valued()
+                : world == 3 ? Checks.paths() : Checks.grouped(8, 4);
+        if (world > 0) {
+            m.fact(0, 90, 0, 0, 5, 7);
+            m.rule(DatalogMill.NEVER, DatalogMill.NONE, 0, 0, 0);
+            m.compare(DatalogMill.SAME, 1, 1);
+            m.add();
+            m.rule(DatalogMill.COUNTS, 1, 0, 0, 0);
+            m.compare(DatalogMill.SAME, 1, 1);
+        }
+        return m;
+    }
+
+    private static boolean throwsRightly(Method m, DatalogMill mill, Random random, int[] numbers)
+            throws IllegalAccessException {
+        Object[] told = new Object[m.getParameterCount()];
+        for (int i = 0; i < told.length; i++) {
+            int number = numbers[random.nextInt(numbers.length)];
+            told[i] = m.getParameterTypes()[i] == boolean.class ? (Object) (number % 2 == 0) : (Object) number;
+        }
+        try {
+            m.invoke(mill, told);
+            return false;
+        } catch (InvocationTargetException e) {
+            Class<?> got = e.getCause().getClass();
+            due(m.getName() + Arrays.toString(told) + " may throw " + got, List.of(m.getExceptionTypes()).contains(got), true);
+            return true;
         }
     }
 
