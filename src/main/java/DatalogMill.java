@@ -728,7 +728,10 @@ public final class DatalogMill {
             return sorts[literal] == ATOM || sorts[literal] == NEGATED;
         }
 
-        /** The code that the first columns of the head make, with 0 for the others. */
+        /**
+         * The code that the first columns of the head make, with 0 for the others. It says once more what
+         * numberOf says, and that what slotOf says, as the calls that lead here go eight deep already.
+         */
         int headCode(int[] values, int columnCount) {
             int code = 0;
             for (int column = 0; column < columnCount; column++) {
