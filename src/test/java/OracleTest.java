@@ -1,52 +1,18 @@
-import java.lang.reflect.InvocationTargetException;
-import java.lang.reflect.Method;
-import java.lang.reflect.Modifier;
 import java.util.ArrayList;
 import java.util.List;
-import java.util.Map;
-import java.util.Random;
-import java.util.TreeMap;
 
 /**
- * Makes the same calls on a DatalogMill and on a MillOracle, by numbers that are the same each time, and
- * compares each answer and each exception. Arguments: how many objects (300), the first seed (1),
- * and anything more to see how often each answer came.
+ * Random calls, good ones and bad ones, in worlds of random rules. Arguments: how many objects (300), the first seed
+ * (1), and anything more to see how often each answer came.
  */
-public final class OracleTest {
-    private static final String[] NAMES = {
-        "relation", "fact", "takeBack", "pass", "now", "facts", "rule", "atom", "compare", "reckon", "add", "drop",
-        "rules", "layer", "count", "rowAt", "holds", "holdsAnew", "answers", "goals", "came", "went", "ways",
-        "height", "price", "needs", "reaches", "bindings", "repair", "repairAt"};
-    private static final int[] LENGTHS = {
-        2, 6, 4, 1, 0, 0, 5, 5, 3, 4, 0, 1, 0, 1, 1, 2, 4, 4, 4, 4, 0, 0, 4, 4, 4, 4, 4, 1, 0, 1};
-    private static final Method[] ON_MILL = methodsOf(DatalogMill.class);
-    private static final Method[] ON_ORACLE = methodsOf(MillOracle.class);
-    private static final int RELATION = 0, FACT = 1, TAKE_BACK = 2, PASS = 3, NOW = 4, FACTS = 5, RULE = 6, ATOM = 7;
-    private static final int COMPARE = 8, RECKON = 9, ADD = 10, DROP = 11, RULES = 12, LAYER = 13, COUNT = 14;
-    private static final int ROW_AT = 15, HOLDS = 16, HOLDS_ANEW = 17, ANSWERS = 18, GOALS = 19, CAME = 20, WENT = 21;
-    private static final int WAYS = 22, HEIGHT = 23, PRICE = 24, NEEDS = 25, REACHES = 26, BINDINGS = 27;
-    private static final int REPAIR = 28, REPAIR_AT = 29;
-
-    private static final Map<String, Integer> SEEN = new TreeMap<>();
-    private static int wrong = 0;
-    private static long calls = 0;
-
-    private final Random random;
-    private final DatalogMill mill = new DatalogMill();
-    private final MillOracle oracle = new MillOracle();
-    private final long seed;
-    private final List<String> log = new ArrayList<>();
+public final class OracleTest extends Twins {
     private final int domain;
     private final int valuedShare;
     private final int guardedShare;
     private final int unorderedShare;
-    private int made = 0;
-    /** Whether the world began with a COUNTS or SUMS rule on the brink of too many groups. */
-    private boolean isGrouped;
 
     private OracleTest(long seed) {
-        this.seed = seed;
-        random = new Random(seed);
+        super(seed);
         int[] domains = {3, 4, 6, 10, 30, 100};
         domain = domains[random.nextInt(domains.length)];
         valuedShare = random.nextInt(101);
@@ -61,97 +27,15 @@ public final class OracleTest {
             new OracleTest(first + i).run();
         }
         if (arguments.length == 0) {
-            requireVariety();
+            requireSeen("add -2", "add -3", "add -4", "add -5", "repair -1", "repair 1", "repair 2", "goals 20",
+                    "fact IllegalStateException", "height -1", "height 3", "layer 3", "growing rule",
+                    "too much by takeBack", "too much by drop", "too much by pass", "too much by fact",
+                    "too many groups", "repairAt 5", "reaches 4", "count 32");
         }
-        System.out.println(calls + " calls on " + objects + " objects, " + wrong + " not as the oracle's");
-        if (arguments.length > 2) {
-            System.out.println(SEEN);
-        }
-        if (wrong != 0) {
-            System.exit(1);
-        }
-    }
-
-    /** The runs are of worth only if they come through all answers that matter. */
-    private static void requireVariety() {
-        String[] wanted = {"add -2", "add -3", "add -4", "add -5", "repair -1", "repair 1", "repair 2", "goals 20",
-            "fact IllegalStateException", "height -1", "height 3", "layer 3", "growing rule", "too much by takeBack",
-            "too much by drop", "too much by pass", "too much by fact", "too many groups", "repairAt 5", "reaches 4", "count 32"};
-        for (String name : wanted) {
-            if (!SEEN.containsKey(name)) {
-                wrong++;
-                System.out.println("no run came to: " + name);
-            }
-        }
-    }
-
-    // ---- one call on both
-
-    private static Method[] methodsOf(Class<?> type) {
-        Method[] methods = new Method[NAMES.length];
-        for (Method m : type.getDeclaredMethods()) {
-            for (int i = 0; i < NAMES.length; i++) {
-                if (m.getName().equals(NAMES[i]) && m.getParameterCount() == LENGTHS[i]
-                        && !Modifier.isPrivate(m.getModifiers())) {
-                    methods[i] = m;
-                }
-            }
-        }
-        return methods;
-    }
-
-    /** What the call answers, as a text, or the name of what it throws. */
-    private static String answer(Method method, Object target, int[] x) {
-        Object[] arguments = new Object[x.length];
-        for (int i = 0; i < x.length; i++) {
-            boolean isTruth = method.getParameterTypes()[i] == boolean.class;
-            arguments[i] = isTruth ? (Object) (x[i] == 1) : (Object) x[i];
-        }
-        try {
-            Object answered = method.invoke(target, arguments);
-            return answered instanceof Boolean ? ((Boolean) answered ? "1" : "0") : String.valueOf(answered);
-        } catch (InvocationTargetException e) {
-            return e.getCause().getClass().getSimpleName();
-        } catch (IllegalAccessException e) {
-            throw new AssertionError(e);
-        }
-    }
-
-    private int call(int call, int... x) {
-        calls++;
-        made++;
-        oracle.isTooMuch = false;
-        String got = answer(ON_MILL[call], mill, x);
-        String due = answer(ON_ORACLE[call], oracle, x);
-        StringBuilder text = new StringBuilder(NAMES[call]).append('(');
-        for (int i = 0; i < x.length; i++) {
-            text.append(i == 0 ? "" : ", ").append(x[i]);
-        }
-        log.add(text.append(") = ").append(due).toString());
-        SEEN.merge(NAMES[call] + " " + (due.length() > 3 || call != ROW_AT ? due : "row"), 1, Integer::sum);
-        if (oracle.isTooMuch) {
-            SEEN.merge("too much by " + NAMES[call], 1, Integer::sum);
-            SEEN.merge(isGrouped ? "too many groups" : "too many rows", 1, Integer::sum);
-        }
-        if (!got.equals(due)) {
-            wrong++;
-            System.out.println("seed " + seed + ", call " + made + ": " + text + ", but the answer was " + got);
-            if (wrong == 1) {
-                log.forEach(System.out::println);
-            }
-        }
-        return due.matches("-?[0-9]+") ? Integer.parseInt(due) : Integer.MIN_VALUE;
+        end(objects, arguments.length > 2);
     }
 
     // ---- a run
-
-    private int below(int n) {
-        return n <= 0 ? 0 : random.nextInt(n);
-    }
-
-    private boolean chance(int percent) {
-        return random.nextInt(100) < percent;
-    }
 
     private void run() {
         if (seed % 5 == 0) {
@@ -255,18 +139,10 @@ public final class OracleTest {
         }
     }
 
-    private int anyRelation() {
-        return below(oracle.relations.size());
-    }
-
     /** Mostly a relation ahead of this one, so that rules seldom run in circles that are refused. */
     private int relationAhead(int head, boolean canBeHead) {
         int ahead = canBeHead ? head + 1 : head;
         return ahead == 0 || chance(unorderedShare) ? anyRelation() : below(ahead);
-    }
-
-    private int columns(int relation) {
-        return oracle.relations.get(relation).columns;
     }
 
     private int[] row(int relation) {
@@ -281,12 +157,9 @@ public final class OracleTest {
         List<List<Integer>> rows = new ArrayList<>(oracle.world.rows.get(relation));
         int[] x = row(relation);
         if (!rows.isEmpty() && chance(90)) {
-            List<Integer> row = rows.get(below(rows.size()));
-            for (int i = 0; i < row.size(); i++) {
-                x[i] = row.get(i);
-            }
+            x = numbers(rows.get(below(rows.size())));
             if (chance(5)) {
-                x[below(row.size())] = below(domain);
+                x[below(columns(relation))] = below(domain);
             }
         }
         return x;
@@ -306,16 +179,7 @@ public final class OracleTest {
             call(TAKE_BACK, r, x[0], x[1], x[2]);
             return;
         }
-        MillOracle.Fact f = oracle.facts.get(below(oracle.facts.size()));
-        int[] x = new int[3];
-        for (int i = 0; i < f.row.size(); i++) {
-            x[i] = f.row.get(i);
-        }
-        call(TAKE_BACK, f.relation, x[0], x[1], x[2]);
-    }
-
-    private int anyRule() {
-        return oracle.rules.isEmpty() ? 0 : oracle.rules.get(below(oracle.rules.size())).number;
+        takeBack(oracle.facts.get(below(oracle.facts.size())));
     }
 
     /** The literals are told first to lists, so that the head can be made of what they know. */
@@ -500,15 +364,6 @@ public final class OracleTest {
         call(REACHES, number, below(3), 0, 0);
     }
 
-    private void askRepair() {
-        int fewest = call(REPAIR);
-        call(REPAIR_AT, 0);
-        if (fewest > 0 && chance(50)) {
-            call(REPAIR_AT, fewest - 1);
-            call(REPAIR_AT, fewest);
-        }
-    }
-
     /** Every row, and what can be asked of it. */
     private void dump() {
         for (int r = 0; r < oracle.relations.size(); r++) {
@@ -526,7 +381,7 @@ public final class OracleTest {
 
     /** Calls whose arguments are anything. */
     private void wild() {
-        int name = below(NAMES.length);
+        int name = below(LENGTHS.length);
         int[] x = new int[6];
         for (int i = 0; i < x.length; i++) {
             int dice = below(100);
